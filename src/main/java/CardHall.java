@@ -85,9 +85,9 @@ public final class CardHall {
     public CardHall() {
         register = new Register();
         tape = new Tape();
-        ordersReader = new OrdersReader(tape);
-        lineReader = new LineReader(tape);
         papers = new Papers();
+        ordersReader = new OrdersReader(tape, papers.noOrders);
+        lineReader = new LineReader(tape);
         floor = new Floor(papers);
         count = new Count(register);
         chair = new Chair(register, papers, floor, count);
@@ -643,7 +643,7 @@ public final class CardHall {
                 fail(UNFIT_TOKEN);
                 return 0;
             }
-            if (value < 1 || value > most || value <= HIGHEST_N && (barred >>> value & 1L) != 0L) {
+            if (value < 1 || value > most || (value <= HIGHEST_N && (barred >>> value & 1L) != 0L)) {
                 fail(UNFIT_NUMBER);
                 return 0;
             }
@@ -759,9 +759,9 @@ public final class CardHall {
         private Rules rules;
         private int part;
 
-        OrdersReader(Tape tape) {
+        OrdersReader(Tape tape, Rules atFirst) {
             this.tape = tape;
-            rules = new Rules();
+            rules = atFirst;
         }
 
         boolean read(Rules into) {
@@ -1082,7 +1082,7 @@ public final class CardHall {
         final int[] changeSort = new int[MOST_AMENDMENTS * MOST_CHANGES];
         final int[] changeNumber = new int[MOST_AMENDMENTS * MOST_CHANGES];
         private final Rules[] rules = new Rules[MOST_ORDERS];
-        private final Rules noOrders = new Rules();
+        final Rules noOrders = new Rules();
         int motions;
         int amendments;
         int orders;
@@ -1643,6 +1643,9 @@ public final class CardHall {
         private final Papers papers;
         private final Floor floor;
         private final int[] motions = new int[MOST_IN_COMPOSITE];
+        private final long[] saidBits = new long[MOST_IN_COMPOSITE];
+        private final long[] deniedBits = new long[MOST_IN_COMPOSITE];
+        private final long[] mustBits = new long[MOST_IN_COMPOSITE];
         private int many;
         // Of what was composed last, as bits by N: LINES that it keeps, those for N, those that are must.
         private long kept;
@@ -1661,8 +1664,18 @@ public final class CardHall {
             this.floor = floor;
         }
 
-        int lostByAll(int bits) {
+        private void choose(int bits) {
             many = floor.chosen(bits, motions);
+            for (int i = 0; i < many; i++) {
+                int motion = at(motions, i);
+                set(saidBits, i, floor.bitsOf(motion, 1));
+                set(deniedBits, i, floor.bitsOf(motion, -1));
+                set(mustBits, i, floor.mustBitsOf(motion));
+            }
+        }
+
+        int lostByAll(int bits) {
+            choose(bits);
             return many < 2 ? NONE : compose((1 << many) - 1);
         }
 
@@ -1675,16 +1688,12 @@ public final class CardHall {
             int keptLines = 0;
             for (int i = 0; i < many; i++) {
                 if ((subset >>> i & 1) != 0) {
-                    long all = allBitsOf(at(motions, i));
+                    long all = at(saidBits, i) | at(deniedBits, i);
                     lines += Long.bitCount(all);
                     keptLines += Long.bitCount(all & kept);
                 }
             }
             return lines - keptLines;
-        }
-
-        private long allBitsOf(int motion) {
-            return floor.bitsOf(motion, 1) | floor.bitsOf(motion, -1);
         }
 
         private boolean gather(int subset) {
@@ -1697,11 +1706,10 @@ public final class CardHall {
             }
             for (int i = 0; i < many; i++) {
                 if ((subset >>> i & 1) != 0) {
-                    int motion = at(motions, i);
-                    said |= floor.bitsOf(motion, 1);
-                    denied |= floor.bitsOf(motion, -1);
-                    must |= floor.mustBitsOf(motion);
-                    share(allBitsOf(motion));
+                    said |= at(saidBits, i);
+                    denied |= at(deniedBits, i);
+                    must |= at(mustBits, i);
+                    share(at(saidBits, i) | at(deniedBits, i));
                 }
             }
             if ((said & denied) != 0L || Long.bitCount(must) > length) {
@@ -1752,7 +1760,7 @@ public final class CardHall {
             if (most < 1 || most > MOST_IN_COMPOSITE) {
                 return NONE;
             }
-            many = floor.chosen(bits, motions);
+            choose(bits);
             if (many == 0) {
                 return NONE;
             }
@@ -1984,18 +1992,21 @@ public final class CardHall {
 
         /** What it changes on a MOTION (it passes then, or no more) if one AFFILIATE turns its VOICE. */
         private void findChanges(int motion) {
-            boolean open = floor.stateOf(motion) == OPEN;
+            for (int a = 0; a < register.affiliates; a++) {
+                set(change, a * MOST_MOTIONS + motion, NO_VOICE);
+            }
+            if (floor.stateOf(motion) != OPEN) {
+                return;
+            }
             Rules rules = papers.inForce(floor.force);
             int against = floor.against(motion);
             countMotion(motion, rules);
             int now = passesNow(rules, against);
             for (int a = 0; a < register.affiliates; a++) {
-                int turn = NO_VOICE;
-                if (open && count.voiceTaken(a) != NOTHING) {
+                if (count.voiceTaken(a) != NOTHING) {
                     count.sumUp(a);
-                    turn = passesNow(rules, against) - now;
+                    set(change, a * MOST_MOTIONS + motion, passesNow(rules, against) - now);
                 }
-                set(change, a * MOST_MOTIONS + motion, turn);
             }
         }
 
@@ -2015,6 +2026,9 @@ public final class CardHall {
         private void keepIfBetter(int a, int b, int m, int n) {
             int onM = at(change, a * MOST_MOTIONS + m);
             int onN = at(change, b * MOST_MOTIONS + n);
+            if (onM == 0 && onN == 0) {
+                return;
+            }
             int gainA = worthFor(a, m) * onM + worthFor(a, n) * onN;
             int gainB = worthFor(b, m) * onM + worthFor(b, n) * onN;
             if (gainA > 0 && gainB > 0 && gainA + gainB > at(theDeal, 4) + at(theDeal, 5)) {
