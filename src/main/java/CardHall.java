@@ -658,7 +658,7 @@ public final class CardHall {
         // Deep enough: each of the brackets leaves at most two sides waiting, what is around them three.
         static final int STACK = 32;
         private static final int USUAL_RATE = 10;
-        private static final int USUAL_LENGTH = 10;
+        private static final int USUAL_LENGTH = 12;
         static final int NUMBER = 0;
         static final int NAME = 1;
         static final int PLUS = 2;

@@ -6,6 +6,8 @@ public final class ComposingTest {
         mostOfThem();
         composites();
         limits();
+        usualLength();
+        usualMusts();
         groups();
         groupsOfLikeCost();
         eightMotions();
@@ -117,14 +119,50 @@ public final class ComposingTest {
         Check.lines(28, x, 23, "1 2 3 4 5 6 7 8");
         Check.due(28, "a 25th", x.composite(0x300), -1);
         Check.due(27, "which could be", x.lost(0x300), 0);
-        CardHall y = Check.hall(10);
-        Check.motion(y, 0, "say 1;say 2;say 3;say 4;say 5;say 6;");
-        Check.motion(y, 0, "say 11;say 12;say 13;say 14;say 15;say 16;");
-        Check.due(27, "ten, without a length told", y.lost(3), 2);
-        y.closing(0);
-        y.day(1);
-        Check.due(28, "composites are never late", y.composite(3), 2);
-        Check.lines(28, y, 2, "1 2 3 4 5 6 11 12 13 14");
+    }
+
+    private static final String SEVEN = "say 1;say 2;say 3;say 4;say 5;say 6;say 7;";
+    private static final String OTHER_SEVEN = "say 11;say 12;say 13;say 14;say 15;say 16;say 17;";
+
+    /** Where no ORDERS tell a length it is 12, and so it is again as ORDERS come that don't tell one. */
+    private static void usualLength() {
+        CardHall x = Check.hall(10);
+        Check.motion(x, 0, SEVEN);
+        Check.motion(x, 0, OTHER_SEVEN);
+        Check.motion(x, 0, "say 21;say 22;say 23;say 24;say 25;");
+        Check.due(27, "twelve, without ORDERS", x.lost(0b101), 0);
+        Check.due(27, "fourteen, without ORDERS", x.lost(0b011), 2);
+        Check.orders(x, "rate 10; bind;");
+        Check.due(27, "twelve, length is not told", x.lost(0b101), 0);
+        Check.due(27, "fourteen, length is not told", x.lost(0b011), 2);
+        Check.orders(x, "length 11; length 10;");
+        Check.due(27, "ORDERS that are OPEN tell nothing", x.lost(0b101), 0);
+        x.casts(0, 201, 1);
+        x.decide(201);
+        Check.due(27, "ten is told last", x.lost(0b011), 4);
+        Check.orders(x, "bind;");
+        x.casts(0, 202, 1);
+        x.decide(202);
+        Check.due(27, "told no more", x.lost(0b011), 2);
+        Check.due(29, "one group, two lost", x.group(0b011, 1), 2);
+        Check.due(29, "one group, none lost", x.group(0b101, 1), 0);
+        x.closing(0);
+        x.day(1);
+        Check.due(28, "composites are never late", x.composite(0b011), 3);
+        Check.lines(28, x, 3, "1 2 3 4 5 6 7 11 12 13 14 15");
+    }
+
+    private static void usualMusts() {
+        CardHall x = Check.hall(10);
+        Check.motion(x, 0, SEVEN.replace(";", " must;"));
+        Check.motion(x, 0, OTHER_SEVEN.replace(";", " must;").substring(0, 12 * 5));
+        Check.motion(x, 0, "say 60 must;");
+        Check.due(27, "twelve musts", x.lost(0b011), 0);
+        Check.due(27, "thirteen musts", x.lost(0b111), -1);
+        Check.due(28, "thirteen musts", x.composite(0b111), -1);
+        Check.due(29, "thirteen musts", x.group(0b111, 1), -1);
+        Check.due(28, "twelve musts", x.composite(0b011), 3);
+        Check.lines(28, x, 3, "1! 2! 3! 4! 5! 6! 7! 11! 12! 13! 14! 15!");
     }
 
     private static void groups() {

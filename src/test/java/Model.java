@@ -37,7 +37,7 @@ final class Model {
     static final class Orders {
         final Map<String, List<String>> told = new HashMap<>();
         int rate = 10;
-        int length = 10;
+        int length = 12;
         boolean bind;
     }
 

@@ -339,7 +339,8 @@ public final class RandomRuns {
 
     private String motion() {
         StringBuilder s = new StringBuilder();
-        int lines = pick(25) == 0 ? 12 + pick(2) : 1 + pick(4);
+        // Of these runs some need LINES enough to go beyond the usual length.
+        int lines = pick(25) == 0 ? 12 + pick(2) : flavour == 0 && pick(2) == 0 ? 4 + pick(5) : 1 + pick(4);
         int span = lines > 5 ? 60 : 12;
         int n = pick(span);
         for (int i = 0; i < lines; i++) {
