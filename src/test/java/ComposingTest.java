@@ -8,6 +8,7 @@ public final class ComposingTest {
         limits();
         usualLength();
         usualMusts();
+        struckMust();
         groups();
         groupsOfLikeCost();
         eightMotions();
@@ -232,5 +233,20 @@ public final class ComposingTest {
         }
         Check.due(29, "eight in one", x.group(0xff, 1), -1);
         Check.due(29, "nine", x.group(0x1ff, 8), -1);
+    }
+
+    private static void struckMust() {
+        CardHall x = Check.hall(10);
+        Check.orders(x, "length 1;");
+        Check.motion(x, 0, "say 1; say 2 must;");
+        Check.motion(x, 0, "say 2;");
+        Check.motion(x, 0, "say 3 must;");
+        Check.due(27, "two musts", x.lost(0b101), -1);
+        Check.amend(x, 0, "strike 2;");
+        x.casts(0, 100, 1);
+        x.decide(100);
+        Check.due(27, "one must alone", x.lost(0b101), 1);
+        Check.due(28, "the least N of like ones", x.composite(0b011), 3);
+        Check.lines(28, x, 3, "1");
     }
 }

@@ -7,6 +7,10 @@ public final class CountingTest {
         counted();
         greatSums();
         broken();
+        untold();
+        rateOfOne();
+        sectionsAreCountedAnew();
+        mandateByOneSoul();
         Check.finish("CountingTest");
     }
 
@@ -180,5 +184,52 @@ public final class CountingTest {
         Check.due(20, "no day", x.broken(0, -1), -1);
         Check.due(20, "no matter", x.broken(1, 0), -1);
         Check.due(20, "no matter", x.broken(100, 0), -1);
+    }
+
+    private static void untold() {
+        CardHall x = new CardHall();
+        x.affiliate(0);
+        x.affiliate(1);
+        x.heads(0, 30);
+        x.dues(1, 300);
+        Check.due(16, "without dues", x.paid(0, 0), 0);
+        Check.due(16, "without heads", x.paid(1, 0), 0);
+    }
+
+    private static void rateOfOne() {
+        CardHall x = Check.hall(30);
+        x.dues(0, 29);
+        Check.due(16, "rate 10 without ORDERS", x.paid(0, 0), 2);
+        Check.orders(x, "bind;");
+        Check.due(16, "rate 10 where it is not told", x.paid(0, 0), 2);
+        CardHall y = Check.hall(30);
+        y.dues(0, 29);
+        Check.orders(y, "rate 1;");
+        Check.due(16, "rate 1", y.paid(0, 0), 29);
+    }
+
+    private static void sectionsAreCountedAnew() {
+        CardHall x = Check.hall(1, 1, 1, 1, 1, 1);
+        Check.motion(x, 0, "say 1;");
+        Check.motion(x, 0, "say 2;");
+        for (int a = 0; a < 6; a++) {
+            x.casts(a, 0, 1);
+        }
+        Check.due(19, "six sections", x.counted(0, 0, 3), 6);
+        Check.due(19, "none of the other", x.counted(1, 0, 3), 0);
+    }
+
+    private static void mandateByOneSoul() {
+        CardHall x = new CardHall();
+        x.affiliate(0);
+        x.branch(0, 5);
+        x.branch(0, 4);
+        Check.motion(x, 0, "say 1;");
+        x.mandate(0, 0, 1);
+        x.mandate(1, 0, 0);
+        Check.due(18, "one soul more for yes", x.voice(0, 0, 0, 1), 1);
+        x.mandate(0, 0, 0);
+        x.mandate(1, 0, 1);
+        Check.due(18, "one soul more for no", x.voice(0, 0, 0, 1), 0);
     }
 }

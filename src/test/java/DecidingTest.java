@@ -14,6 +14,9 @@ public final class DecidingTest {
         rows();
         hundredRows();
         linesAndStands();
+        theFirstFallsToo();
+        ordersThatPass();
+        noLineAheadOfTheFirst();
         Check.finish("DecidingTest");
     }
 
@@ -386,5 +389,46 @@ public final class DecidingTest {
         Check.due(26, "stands(61)", x.stands(61), -2);
         Check.due(26, "stands(-1)", x.stands(-1), -2);
         Check.due(26, "stands(64)", x.stands(64), -2);
+    }
+
+    private static void theFirstFallsToo() {
+        CardHall x = Check.hall(10);
+        Check.motion(x, 0, "say 1;");
+        Check.motion(x, 0, "say not 1;");
+        Check.amend(x, 0, "add 2;");
+        x.casts(0, 1, 1);
+        Check.due(21, "passed", x.decide(1), 1);
+        Check.due(24, "the contrary one", x.how(0), 3);
+        Check.due(24, "its amendment", x.how(100), 3);
+    }
+
+    private static void ordersThatPass() {
+        CardHall x = Check.hall(10);
+        Check.orders(x, "");
+        Check.orders(x, "rate 20;");
+        Check.orders(x, "rate 30;");
+        x.casts(0, 201, 1);
+        x.decide(201);
+        Check.due(24, "passed", x.how(201), 1);
+        Check.due(24, "still open", x.how(202), 0);
+        x.casts(0, 202, 0);
+        x.decide(202);
+        Check.due(24, "lost", x.how(202), 2);
+        Check.due(36, "in force", x.count(7), 1);
+    }
+
+    private static void noLineAheadOfTheFirst() {
+        CardHall x = Check.hall(10);
+        StringBuilder twelve = new StringBuilder();
+        for (int n = 1; n <= 12; n++) {
+            twelve.append("say ").append(n).append(" must;");
+        }
+        Check.motion(x, 0, twelve.toString());
+        Check.motion(x, 0, "say 20;");
+        for (int i = -1; i <= 12; i += 13) {
+            Check.due(25, "n of line " + i, x.line(1, i, 0), 0);
+            Check.due(25, "must of line " + i, x.line(1, i, 1), -1);
+            Check.due(25, "by of line " + i, x.line(1, i, 2), -1);
+        }
     }
 }

@@ -10,6 +10,7 @@ public final class TextsTest {
         motions();
         amendments();
         faultsChangeNothing();
+        aFaultInTheFirstOrders();
         Check.finish("TextsTest");
     }
 
@@ -344,5 +345,21 @@ public final class TextsTest {
         x.decide(201);
         Check.due(12, "nothing of the faulty text is left", x.paid(0, 0), 10);
         Check.due(12, "what is not told is as usual", x.count(7), 1);
+    }
+
+    private static void aFaultInTheFirstOrders() {
+        CardHall x = Check.hall(30);
+        Check.motion(x, 0, "say 1;say 2;say 3;");
+        Check.motion(x, 0, "say 4;say 5;say 6;");
+        Check.due(12, "a fault at the end", Check.orders(x, "rate 100; length 3; bind; cards 7; late if 1 = 1; bin"), -2);
+        Check.due(15, "its place", x.place(), 50);
+        Check.due(16, "no rate is told", x.paid(0, 0), 30);
+        Check.due(17, "no cards are told", x.cards(0, 0), 30);
+        Check.due(27, "no length is told", x.lost(3), 0);
+        x.mandate(0, 0, 1);
+        Check.due(7, "bind is not told", x.casts(0, 0, 0), true);
+        x.closing(0);
+        x.day(1);
+        Check.due(13, "late is not told", Check.motion(x, 0, "say 9;"), -6);
     }
 }

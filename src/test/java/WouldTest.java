@@ -11,6 +11,10 @@ public final class WouldTest {
         deals();
         dealsOfLikeSums();
         dealsNeedVoices();
+        eachAffiliateAsOne();
+        contraryStandsInOrder();
+        dealsOnOneAlone();
+        dealsOfLaterOnes();
         Check.finish("WouldTest");
     }
 
@@ -335,5 +339,96 @@ public final class WouldTest {
         Check.due(35, "n", x.deal(3), 0);
         x.casts(0, 1, 2);
         Check.due(35, "nothing cast", x.deal(0), -1);
+    }
+
+    private static void eachAffiliateAsOne() {
+        CardHall x = Check.hall(100, 30, 20);
+        Check.orders(x, "pass motion if all = 3 and yes = 1 and no = 2 and sections = 1;");
+        Check.motion(x, 0, "say 1;");
+        x.casts(0, 0, 1);
+        x.casts(1, 0, 0);
+        x.casts(2, 0, 0);
+        all(x, 0, 0, 0, 1, 0);
+        CardHall y = new CardHall();
+        y.affiliate(2);
+        y.affiliate(2);
+        y.branch(0, 1);
+        y.branch(0, 1);
+        y.branch(0, 900);
+        y.branch(1, 1);
+        Check.orders(y, "pass motion if all = 4 and yes = 3 and no = 1 and sections = 1;");
+        Check.motion(y, 0, "say 1;");
+        y.mandate(0, 0, 1);
+        y.mandate(1, 0, 1);
+        y.mandate(2, 0, 0);
+        y.mandate(3, 0, 1);
+        // The MANDATE of the first AFFILIATE is no; yet of its SECTION's BRANCHES three are for yes.
+        all(y, 0, 0, 0, 0, 1);
+    }
+
+    private static void contraryStandsInOrder() {
+        CardHall x = Check.hall(10, 3);
+        Check.orders(x, "pass motion if yes > no and against = 0;");
+        Check.motion(x, 0, "say not 1;");
+        x.casts(0, 0, 1);
+        x.decide(0);
+        Check.motion(x, 0, "say 2;");
+        Check.motion(x, 0, "say 3;");
+        Check.motion(x, 0, "say 1;");
+        for (int m = 1; m < 4; m++) {
+            x.casts(0, m, 1);
+            x.worth(0, m, m);
+        }
+        Check.due(33, "2 and 3, for 1 is against", x.inOrder(0b1110, 123, 0), 3);
+        Check.due(33, "2 and 3, for 1 is against", x.inOrder(0b1110, 312, 0), 3);
+    }
+
+    private static void isDeal(CardHall x, String what, int... want) {
+        for (int i = 0; i < 6; i++) {
+            Check.due(35, what + ", deal(" + i + ")", x.deal(i), want[i]);
+        }
+    }
+
+    private static void dealsOnOneAlone() {
+        CardHall x = Check.hall(10, 10);
+        Check.motion(x, 0, "say 1;");
+        Check.motion(x, 0, "say 2;");
+        x.casts(0, 0, 1);
+        x.casts(1, 1, 0);
+        x.casts(0, 1, 0);
+        x.worth(0, 0, -3);
+        x.worth(1, 0, -1);
+        isDeal(x, "m alone is lost then", 0, 1, 0, 1, 3, 1);
+        x.worth(0, 0, -1);
+        isDeal(x, "1 for each", 0, 1, 0, 1, 1, 1);
+        Check.motion(x, 0, "say 3;");
+        x.casts(0, 2, 1);
+        x.worth(0, 0, -9);
+        x.worth(0, 2, -3);
+        x.worth(1, 2, -3);
+        isDeal(x, "9 and 1 are more than 3 and 3", 0, 1, 0, 1, 9, 1);
+        CardHall y = Check.hall(10, 10);
+        Check.motion(y, 0, "say 1;");
+        Check.motion(y, 0, "say 2;");
+        y.casts(1, 1, 1);
+        y.casts(0, 0, 0);
+        y.casts(1, 0, 0);
+        y.worth(0, 1, -2);
+        y.worth(1, 1, -4);
+        isDeal(y, "n alone is lost then", 0, 1, 0, 1, 2, 4);
+        y.decide(0);
+        Check.due(35, "no m is open", y.deal(0), -1);
+    }
+
+    private static void dealsOfLaterOnes() {
+        CardHall x = Check.hall(5, 10, 10);
+        Check.motion(x, 0, "say 1;");
+        Check.motion(x, 0, "say 2;");
+        x.casts(1, 0, 1);
+        x.casts(2, 1, 1);
+        x.worth(1, 0, -1);
+        x.worth(1, 1, -1);
+        x.worth(2, 0, -1);
+        isDeal(x, "of 1 and 2", 1, 2, 0, 1, 2, 1);
     }
 }
