@@ -1450,7 +1450,7 @@ public final class CardHall {
         }
 
         boolean takesLate(Rules rules, int mover, int lines, int day) {
-            set(facts, 0, at(heads, mover));
+            set(facts, 0, paidHeadsOf(mover, rules.rate));
             set(facts, 1, lines);
             set(facts, 2, day);
             return rules.says(PART_LATE) && rules.value(PART_LATE, facts, stack) != 0;

@@ -428,7 +428,7 @@ final class Model {
             return failed(f);
         }
         if (closing != NONE && today > closing) {
-            Map<String, Long> facts = Map.of("heads", (long) told(0, mover, NONE, today, 0),
+            Map<String, Long> facts = Map.of("heads", (long) paidHeads(mover, today),
                 "lines", (long) lines.size(), "day", (long) today);
             if (!inForce().told.containsKey("late") || !holds(inForce().told.get("late"), facts)) {
                 return -6;

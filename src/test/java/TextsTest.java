@@ -238,13 +238,46 @@ public final class TextsTest {
         Check.due(15, "place of one not taken", x.place(), -1);
         Check.due(13, "the tape is empty", x.count(9), 0);
         Check.due(13, "a fault goes ahead", Check.motion(x, 0, "say 0;"), -3);
-        Check.orders(x, "late if heads = 10 and lines < 3 and day = 5;");
-        Check.due(13, "of 10 HEADS, told", Check.motion(x, 0, "say 1;say 2;"), 0);
+        Check.orders(x, "late if heads = 1 and lines < 3 and day = 5;");
+        Check.due(13, "of 1 PAID HEAD out of 10", Check.motion(x, 0, "say 1;say 2;"), 0);
         Check.due(13, "too many lines", Check.motion(x, 0, "say 1;say 2;say 3;"), -6);
         Check.due(13, "of another mover", Check.motion(x, 1, "say 1;"), -6);
         x.day(1);
         Check.due(13, "on another day", Check.motion(x, 0, "say 1;"), -6);
         Check.due(13, "motions", x.count(4), 1);
+        lateByPaidHeads();
+    }
+
+    private static void lateByPaidHeads() {
+        CardHall x = new CardHall();
+        x.affiliate(0);
+        x.heads(0, 20);
+        Check.orders(x, "rate 5; cards 99; late if heads > 3;");
+        x.closing(0);
+        x.day(1);
+        Check.due(13, "no DUES are told", Check.motion(x, 0, "say 1;"), -6);
+        x.dues(0, 19);
+        Check.due(13, "DUES for 3", Check.motion(x, 0, "say 1;"), -6);
+        x.dues(0, 20);
+        Check.due(13, "DUES for 4 by the rate of the ORDERS", Check.motion(x, 0, "say 1;"), 0);
+        x.dues(0, 99999);
+        x.heads(0, 3);
+        Check.due(13, "no more than HEADS", Check.motion(x, 0, "say 1;"), -6);
+        x.heads(0, 4);
+        Check.due(13, "as known on the DAY at hand", Check.motion(x, 0, "say 1;"), 1);
+        x.day(1);
+        Check.due(13, "as told last", Check.motion(x, 0, "say 1;"), 2);
+        Check.orders(x, "rate 999; late if heads > 3 and heads < 99;");
+        Check.due(13, "by the ORDERS IN FORCE alone", Check.motion(x, 0, "say 1;"), 3);
+        Check.orders(x, "rate 999; late if heads = 2;");
+        x.dues(0, 2997);
+        Check.due(13, "by the rate of those ahead", Check.motion(x, 0, "say 1;"), 4);
+        x.casts(0, 202, 1);
+        x.decide(202);
+        Check.due(36, "these are IN FORCE", x.count(7), 2);
+        Check.due(13, "by the new rate 3", Check.motion(x, 0, "say 1;"), -6);
+        x.dues(0, 2996);
+        Check.due(13, "by the new rate 2", Check.motion(x, 0, "say 1;"), 5);
     }
 
     private static void badMotion(String text, int kind, int place) {
