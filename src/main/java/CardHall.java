@@ -34,6 +34,7 @@ public final class CardHall {
     private static final int MOST_IN_COMPOSITE = 8;
     private static final int MOST_IN_ORDER = 6;
     private static final int ALL_ORDERS_OF_SIX = 720;
+    private static final int ALL_GROUPINGS_OF_EIGHT = 4140;
     private static final int SECTIONS = 6;
     private static final int HIGHEST_N = 60;
     private static final int HIGHEST_DAY = 100000;
@@ -791,10 +792,14 @@ public final class CardHall {
             boolean good = true;
             switch (clause) {
                 case CLAUSE_PASS:
-                    good = readCondition(kindAtHand());
+                case CLAUSE_LATE:
+                    good = beginCondition(clause) && either(0);
+                    rules.endPart(part);
                     break;
                 case CLAUSE_CARDS:
-                    good = readCards();
+                    beginPart(PART_CARDS);
+                    good = sum(0);
+                    rules.endPart(part);
                     break;
                 case CLAUSE_RATE:
                     rules.rate = tape.takeN(999, 0L);
@@ -804,11 +809,8 @@ public final class CardHall {
                     rules.length = tape.takeN(12, 0L);
                     good = rules.length > 0;
                     break;
-                case CLAUSE_BIND:
-                    rules.binds = true;
-                    break;
                 default:
-                    good = readCondition(PART_LATE);
+                    rules.binds = true;
             }
             return good && tape.skipSign(';');
         }
@@ -828,27 +830,21 @@ public final class CardHall {
                 : tape.isWord("order") ? KIND_ORDER : NONE;
         }
 
-        /** Of pass the KIND is still at hand, and no part if it is none; of late its "if". */
-        private boolean readCondition(int ofPart) {
+        private boolean beginCondition(int clause) {
+            int ofPart = clause == CLAUSE_LATE ? PART_LATE : kindAtHand();
             if (ofPart == NONE) {
                 return tape.fail(UNFIT_TOKEN);
             }
             if (ofPart != PART_LATE) {
                 tape.next();
             }
-            part = ofPart;
-            rules.beginPart(part);
-            boolean good = tape.skipWord("if") && either(0);
-            rules.endPart(part);
-            return good;
+            beginPart(ofPart);
+            return tape.skipWord("if");
         }
 
-        private boolean readCards() {
-            part = PART_CARDS;
+        private void beginPart(int ofPart) {
+            part = ofPart;
             rules.beginPart(part);
-            boolean good = sum(0);
-            rules.endPart(part);
-            return good;
         }
 
         // These call one another; open, the number of open brackets, is at most four.
@@ -874,17 +870,42 @@ public final class CardHall {
         }
 
         private boolean piece(int open) {
-            boolean turned = false;
-            // A text may hold far more nots in a row than calls may stand open.
-            for (int i = 0; i < MOST_BYTES && tape.isWord("not"); i++) {
-                tape.next();
-                turned = !turned;
+            boolean turned = skipNots();
+            boolean good;
+            if (tape.isSign('[')) {
+                good = square(open);
+            } else {
+                good = sum(open);
+                int sort = good ? takeComparison() : NONE;
+                good = sort != NONE && sum(open);
+                rules.addStep(sort, 0);
             }
-            boolean good = tape.isSign('[') ? square(open) : comparison(open);
             if (turned) {
                 rules.addStep(Rules.NOT, 0);
             }
             return good;
+        }
+
+        /** Whether the nots in a row turn what is behind them; there may be far more than calls may stand open. */
+        private boolean skipNots() {
+            boolean turned = false;
+            for (int i = 0; i < MOST_BYTES && tape.isWord("not"); i++) {
+                tape.next();
+                turned = !turned;
+            }
+            return turned;
+        }
+
+        /** The comparison that was at hand; NONE with a FAULT. */
+        private int takeComparison() {
+            int sort = tape.isSign('<') ? Rules.LESS : tape.isSign('>') ? Rules.MORE
+                : tape.isSign('=') ? Rules.LIKE : NONE;
+            if (sort == NONE) {
+                tape.fail(UNFIT_TOKEN);
+            } else {
+                tape.next();
+            }
+            return sort;
         }
 
         private boolean square(int open) {
@@ -893,21 +914,6 @@ public final class CardHall {
             }
             tape.next();
             return either(open + 1) && tape.skipSign(']');
-        }
-
-        private boolean comparison(int open) {
-            if (!sum(open)) {
-                return false;
-            }
-            int sort = tape.isSign('<') ? Rules.LESS : tape.isSign('>') ? Rules.MORE
-                : tape.isSign('=') ? Rules.LIKE : NONE;
-            if (sort == NONE) {
-                return tape.fail(UNFIT_TOKEN);
-            }
-            tape.next();
-            boolean good = sum(open);
-            rules.addStep(sort, 0);
-            return good;
         }
 
         private boolean sum(int open) {
@@ -1653,8 +1659,9 @@ public final class CardHall {
         private long must;
         private final long[] sharedBy = new long[MOST_IN_COMPOSITE + 1];
         private final int[] lostBy = new int[1 << MOST_IN_COMPOSITE];
-        private final int[] members = new int[MOST_IN_COMPOSITE + 1];
-        private final int[] bestMembers = new int[MOST_IN_COMPOSITE + 1];
+        private final int[] members = new int[MOST_IN_COMPOSITE];
+        private final int[] inGroup = new int[MOST_IN_COMPOSITE];
+        private final int[] bestInGroup = new int[MOST_IN_COMPOSITE];
         private int mostGroups;
         private int bestLost;
         private int bestGroups;
@@ -1769,47 +1776,75 @@ public final class CardHall {
             }
             mostGroups = most;
             bestLost = NONE;
-            fill(members, 0);
-            placeMotion(0, 0);
+            fill(inGroup, 0);
+            boolean more = true;
+            // They come in the order that makes the first of like ones the one to keep.
+            for (int k = 0; k < ALL_GROUPINGS_OF_EIGHT && more; k++) {
+                keepIfBetter();
+                more = nextGrouping();
+            }
             return bestLost;
         }
 
-        // Goes through the groupings in the order that makes the first of like ones the one to keep.
-        private void placeMotion(int i, int groups) {
-            if (i >= many) {
-                keepIfBetter(groups);
-                return;
-            }
-            for (int g = 0; g <= groups && g < mostGroups; g++) {
-                int was = at(members, g);
-                int with = was | 1 << i;
-                // What can't be composed can't with more MOTIONS either.
-                if (at(lostBy, with) != NONE) {
-                    set(members, g, with);
-                    placeMotion(i + 1, g == groups ? groups + 1 : groups);
-                    set(members, g, was);
+        /** Puts the MOTIONS into the GROUPS that come next, MOTION by MOTION; false behind the last. */
+        private boolean nextGrouping() {
+            for (int i = many - 1; i > 0; i--) {
+                int next = at(inGroup, i) + 1;
+                if (next < mostGroups && next <= groupsAhead(i)) {
+                    set(inGroup, i, next);
+                    for (int k = i + 1; k < many; k++) {
+                        set(inGroup, k, 0);
+                    }
+                    return true;
                 }
             }
+            return false;
         }
 
-        private void keepIfBetter(int groups) {
-            int lost = 0;
-            for (int g = 0; g < groups; g++) {
-                lost += at(lostBy, at(members, g));
+        /** How many GROUPS the MOTIONS ahead of this one are in. */
+        private int groupsAhead(int end) {
+            int groups = 0;
+            for (int i = 0; i < end; i++) {
+                groups = Math.max(groups, at(inGroup, i) + 1);
+            }
+            return groups;
+        }
+
+        private void keepIfBetter() {
+            int groups = groupsAhead(many);
+            int lost = lostByGroups();
+            if (lost == NONE) {
+                return;
             }
             if (bestLost == NONE || lost < bestLost || lost == bestLost && groups < bestGroups) {
                 bestLost = lost;
                 bestGroups = groups;
-                copy(members, bestMembers);
+                copy(inGroup, bestInGroup);
             }
         }
 
+        /** LOST LINES of all GROUPS together; NONE if one of them can't be a COMPOSITE. */
+        private int lostByGroups() {
+            fill(members, 0);
+            for (int i = 0; i < many; i++) {
+                int g = at(inGroup, i);
+                set(members, g, at(members, g) | 1 << i);
+            }
+            int lost = 0;
+            for (int g = 0; g < members.length; g++) {
+                int lostHere = at(lostBy, at(members, g));
+                if (lostHere == NONE) {
+                    return NONE;
+                }
+                lost += lostHere;
+            }
+            return lost;
+        }
+
         int groupOf(int motion) {
-            for (int g = 0; g < bestGroups; g++) {
-                for (int i = 0; i < many; i++) {
-                    if (at(motions, i) == motion && (at(bestMembers, g) >>> i & 1) != 0) {
-                        return g;
-                    }
+            for (int i = 0; i < many; i++) {
+                if (at(motions, i) == motion) {
+                    return at(bestInGroup, i);
                 }
             }
             return NONE;
