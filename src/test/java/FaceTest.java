@@ -9,9 +9,12 @@ import java.nio.file.Path;
 import java.util.ArrayDeque;
 import java.util.Collections;
 import java.util.IdentityHashMap;
+import java.util.List;
 import java.util.NoSuchElementException;
 import java.util.Set;
 import java.util.TreeSet;
+import java.util.regex.Matcher;
+import java.util.regex.Pattern;
 
 /** The public face, the room that objects take, and those rules of LANGUAGE.md that a look at the text can tell. */
 public final class FaceTest {
@@ -29,6 +32,7 @@ public final class FaceTest {
         face();
         inside();
         text();
+        methods();
         room();
         wildNumbers();
         Check.finish("FaceTest");
@@ -98,6 +102,29 @@ public final class FaceTest {
             Check.due(1, "signs 1 to 127: " + l, l.matches("\\p{ASCII}*"), true);
         }
         Check.due(1, "imports", imports, 1);
+    }
+
+    /** Rules 8 and 11: a private method that is not static does not call itself, and methods are short. */
+    private static void methods() throws IOException {
+        List<String> lines = Files.readAllLines(Path.of("src/main/java/CardHall.java"));
+        Pattern head = Pattern.compile("( {4}| {8})(?! |if|for|while|switch|else|return)[\\w\\[\\] ]*?(\\w+)\\(.*\\{");
+        int found = 0;
+        for (int i = 0; i < lines.size(); i++) {
+            Matcher m = head.matcher(lines.get(i));
+            if (!m.matches()) {
+                continue;
+            }
+            found++;
+            Pattern itself = Pattern.compile("(^|[^.\\w])" + m.group(2) + "\\(");
+            int end = i + 1;
+            while (!lines.get(end).equals(m.group(1) + "}")) {
+                boolean overload = m.group(2).equals("at") || m.group(2).equals("set");
+                Check.due(1, lines.get(i) + " calls itself", !overload && itself.matcher(lines.get(end)).find(), false);
+                end++;
+            }
+            Check.due(1, lines.get(i) + " has at most sixty lines", end - i <= 60, true);
+        }
+        Check.due(1, "methods found: " + found, found > 150, true);
     }
 
     /** Objects and arrays that hang on this one, and their fields and elements. */
